@@ -142,9 +142,16 @@ public final class PromiseTest {
         text("guest 9 100;", -18, 1);
         text("\0", -10, 1);
         text("steps 4 999", -18, 1);
+        text("`", -10, 1);
+        text("{", -10, 1);
+        text("/", -10, 1);
+        text(":", -10, 1);
         // 2: a TOKEN that can not stand there
         text("sTeps 4;", -10, 2);
         text("step 4;", -10, 2);
+        text("z", -10, 2);
+        text("a", -10, 2);
+        text("bookz 1 1 9;", -10, 2);
         text("stepss 4;", -10, 2);
         text("4;", -10, 2);
         text(" ;", -11, 2);
@@ -445,6 +452,12 @@ public final class PromiseTest {
         x.shelve(2, 1, 0);
         due.is("P37 no minutes", 1, x.read(0, 0, 0, 1));
         due.is("P13 still 9999", 9999, x.rule(3));
+        due.is("P14 a day at 9999", FULL, x.days(1));
+        for (int r = 0; r < 4; r++) {
+            x.alter(r, 1, 9);
+        }
+        due.is("P14 a day of no minutes at 9999", 0, x.days(1));
+        due.is("P14 day 15", 15, x.rule(4));
     }
 
     private static void startRound(UpperSteps x) {
@@ -486,6 +499,11 @@ public final class PromiseTest {
         due.is("P14 had it", 0, y.days(1));
         due.is("P14 is done", 1, y.rule(5));
         due.is("P14 no time", 10, y.rule(3));
+        // All eight in a DAY, and the round is closed in it.
+        UpperSteps z = Due.told("book 0 0 1;book 0 0 2;book 0 0 3;book 0 0 4;book 0 0 5;book 0 0 6;"
+                + "book 0 0 7;book 0 0 0;guest 0 1;");
+        due.is("P14 eight", 8, z.days(1));
+        due.is("P14 the round is closed", 1, z.rule(5));
     }
 
     private static void p15Runs() {
@@ -672,6 +690,11 @@ public final class PromiseTest {
         due.is("P23 in halves", 54, y.need(0, 2));
         y.shelve(5, 1, 4);
         due.is("P23 98", 98, y.need(0, 1));
+        UpperSteps z = Due.told("book 0 9 1;book 0 9 2;book 0 9 3;book 0 9 4;book 0 9 5;book 0 9 6;book 0 9 7;"
+                + "book 0 6 9;nephew 0 1;");
+        due.is("P23 98 of a nephew", 98, z.need(0, 1));
+        z.alter(0, 0, 0);
+        due.is("P23 69 of a guest", 69, z.need(0, 1));
     }
 
     private static void p24High() {
@@ -692,6 +715,9 @@ public final class PromiseTest {
         due.is("P24 he had it", 9, x.high(2, 2, 0));
         UpperSteps y = Due.told("book 0 9 1;book 0 0 9;guest 0 5;");
         due.is("P24 behind another", NONE, y.high(1, 0, 60));
+        y.shelve(0, 1, 5);
+        due.is("P24 at the knee alone", 0, y.high(1, 0, 1));
+        due.is("P24 higher by the second day", 5, y.high(1, 0, 2));
     }
 
     private static final String TWO_DAYS = "book 0 5 1;book 0 5 9;guest 0 5;";
