@@ -366,7 +366,7 @@ public final class UpperSteps {
     // ---- who wanted what when
 
     public int see(int n, int r, int w) {
-        if (outside(n, 0, DAYS_SEEN) || !house.hasReader(r) || !house.isBookOrNone(w)) {
+        if (outside(n, 0, DAYS_SEEN) || !house.hasReader(r) || !tellsBookOrNone(w)) {
             return BAD;
         }
         if (sightings.size >= MOST_SEEN) {
@@ -545,6 +545,11 @@ public final class UpperSteps {
 
     private static boolean outside(int x, int least, int most) {
         return x < least || x > most;
+    }
+
+    /** Whether a number can be said of what was SEEN: the BOOK need not be there, but then nothing is as SEEN. */
+    private static boolean tellsBookOrNone(int v) {
+        return v == SAYS_NONE || !outside(v, 0, MAX_BOOKS - 1);
     }
 
     private static int bookSaid(int v) {

@@ -555,7 +555,7 @@ final class Oracle {
     // ---- who wanted what when
 
     int see(int n, int r, int w) {
-        if (!in(n, 0, 20) || !isReader(r) || w != 9 && !isBook(w)) return BAD;
+        if (!in(n, 0, 20) || !isReader(r) || w != 9 && !in(w, 0, 7)) return BAD;
         if (now.seen.size() == 6) return FULL;
         now.seen.add(new int[] {n, r, w == 9 ? NONE : w});
         return now.seen.size();

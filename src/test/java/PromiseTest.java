@@ -36,6 +36,7 @@ public final class PromiseTest {
         p25Luck();
         p26Mean();
         p27See();
+        p27SeeBookThatIsNotThere();
         p28Forget();
         p29Kinds();
         p30Heights();
@@ -791,8 +792,10 @@ public final class PromiseTest {
         due.is("P27 days above", BAD, x.see(21, 0, 0));
         due.is("P27 nobody", BAD, x.see(0, 3, 0));
         due.is("P27 below", BAD, x.see(0, -1, 0));
-        due.is("P27 no such book", BAD, x.see(0, 0, 3));
         due.is("P27 8", BAD, x.see(0, 0, 8));
+        due.is("P27 10", BAD, x.see(0, 0, 10));
+        due.is("P27 most", BAD, x.see(0, 0, MOST));
+        due.is("P27 least", BAD, x.see(0, 0, LEAST));
         due.is("P27 book below", BAD, x.see(0, 0, -4));
         due.is("P27 none came", 0, x.count(0));
         for (int i = 1; i <= 6; i++) {
@@ -802,6 +805,26 @@ public final class PromiseTest {
         due.is("P27 bad is ahead", BAD, x.see(21, 0, 0));
         due.is("P27 six", 6, x.count(0));
         due.is("P27 all are so", 1, x.kinds(0) & 1);
+    }
+
+    private static void p27SeeBookThatIsNotThere() {
+        UpperSteps x = Due.told("book 0 6 9;guest 0 6;maid 9 1;");
+        for (int w = 0; w <= 7; w++) {
+            x.forget(0);
+            due.is("P27 seen " + w, 1, x.see(0, 0, w));
+            due.is("P27 kinds by " + w, w == 0 ? 15 : 0, x.kinds(0));
+            due.is("P27 heights by " + w, w == 0 ? 1023 : 0, x.heights(0));
+        }
+        due.is("P27 nothing to ask", NONE, x.ask(0, 0));
+        x.keep(0);
+        x.forget(0);
+        x.back(0);
+        due.is("P27 in an image", 0, x.kinds(1));
+        x = Due.told("guest 9 6;");
+        due.is("P27 without books", 1, x.see(0, 0, 0));
+        due.is("P27 wants none", 0, x.kinds(0));
+        due.is("P27 alter asks for the book", BAD, x.alter(0, 1, 0));
+        due.is("P27 nobody stays bad", BAD, x.see(0, 1, 0));
     }
 
     private static void p28Forget() {
