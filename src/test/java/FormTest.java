@@ -11,6 +11,7 @@ import java.util.IdentityHashMap;
 import java.util.List;
 import java.util.Map;
 import java.util.Set;
+import java.util.TreeMap;
 import java.util.TreeSet;
 import java.util.regex.Matcher;
 import java.util.regex.Pattern;
@@ -28,6 +29,7 @@ public final class FormTest {
         members();
         words();
         methodLengths();
+        depth();
         room();
         System.out.println("FormTest: " + wrong + " not as due");
         if (wrong != 0) {
@@ -81,11 +83,8 @@ public final class FormTest {
                 open.add(method.getName());
             }
         }
-        Class<?>[] inside = UpperSteps.class.getDeclaredClasses();
-        check(inside.length <= 11, "too many classes");
-        List<Class<?>> all = new ArrayList<>(List.of(inside));
-        all.add(UpperSteps.class);
-        for (Class<?> type : all) {
+        check(inAndOut().size() <= 12, "too many classes");
+        for (Class<?> type : inAndOut()) {
             check(type == UpperSteps.class || Modifier.isStatic(type.getModifiers()), type + " is not static");
             int fields = 0;
             for (Field field : type.getDeclaredFields()) {
@@ -142,6 +141,57 @@ public final class FormTest {
                 begun = 0;
             }
         }
+    }
+
+    /** Rules 8 and 11: no method comes back to itself, and calls, those of the library too, go at most eight deep. */
+    private static void depth() throws IOException {
+        Map<String, Set<String>> called = new TreeMap<>();
+        String within = "";
+        for (String line : bare().split("\n")) {
+            Matcher opened = Pattern.compile("^ {4}(?: {4})?(?:[\\w\\[\\]]+ )*(\\w+)\\([^()]*\\) \\{$").matcher(line);
+            if (opened.find()) {
+                within = opened.group(1);
+                called.computeIfAbsent(within, name -> new TreeSet<>());
+                continue;
+            }
+            Matcher call = Pattern.compile("(new )?\\b(\\w+)\\(").matcher(line);
+            while (call.find()) {
+                if (!within.isEmpty() && call.group(1) == null) {
+                    called.get(within).add(call.group(2));
+                }
+            }
+        }
+        int methods = 0;
+        for (Class<?> type : inAndOut()) {
+            for (Method method : type.getDeclaredMethods()) {
+                methods++;
+                check(called.containsKey(method.getName()), method.getName() + " was not found in the code");
+            }
+        }
+        check(methods > 38, "only " + methods + " methods were looked at");
+        for (String name : called.keySet()) {
+            int deep = depthOf(name, called, 1);
+            check(deep <= 8, name + " goes " + deep + " deep");
+        }
+    }
+
+    private static List<Class<?>> inAndOut() {
+        List<Class<?>> all = new ArrayList<>(List.of(UpperSteps.class.getDeclaredClasses()));
+        all.add(UpperSteps.class);
+        return all;
+    }
+
+    /** Methods are told apart by name alone, which may make it deeper than it is, never less deep. */
+    private static int depthOf(String name, Map<String, Set<String>> called, int level) {
+        int deepest = level;
+        // A method that comes back to itself would go down for ever.
+        if (level > 20) {
+            return level;
+        }
+        for (String next : called.getOrDefault(name, Set.of())) {
+            deepest = Math.max(deepest, depthOf(next, called, level + 1));
+        }
+        return deepest;
     }
 
     /** What an object holds, all told: some thousands of them must find room together. */
